@@ -33,7 +33,6 @@ public final class FieldFactors {
 
     public FieldFactors() {
         numbers = new Arithmetic();
-        numbers.become(FIELDS[0]);
         cutter = new Cutter(numbers);
         orderSearch = new OrderSearch(numbers);
         registers = new Polynomial[REGISTER_COUNT];
@@ -82,7 +81,8 @@ public final class FieldFactors {
         if ((op == QUOTIENT || op == REST) && right.degree < 0) {
             throw new IllegalArgumentException("division by 0");
         }
-        if (op == MULTIPLY && productDegree(left, right) > TOP_DEGREE) {
+        // A factor 0 brings the sum of the degrees down, so that it needs no look of its own.
+        if (op == MULTIPLY && left.degree + right.degree > TOP_DEGREE) {
             throw new ArithmeticException("the degree is too high");
         }
         combine(op, left, right);
@@ -212,13 +212,7 @@ public final class FieldFactors {
         return index < 0 ? 0 : CUT_DEGREES[index];
     }
 
-    private static int productDegree(Polynomial a, Polynomial b) {
-        return a.degree < 0 || b.degree < 0 ? -1 : a.degree + b.degree;
-    }
-
     private void combine(int op, Polynomial left, Polynomial right) {
-        scratch.copyFrom(left);
-        result.clear();
         switch (op) {
             case ADD:
                 result.copyFrom(left);
@@ -229,14 +223,16 @@ public final class FieldFactors {
                 numbers.addShifted(result, numbers.p - 1, 0, right);
                 break;
             case MULTIPLY:
+                result.clear();
                 numbers.addProduct(result, 1, left, right);
                 break;
             case QUOTIENT:
+                scratch.copyFrom(left);
                 numbers.divide(scratch, right, result);
                 break;
             case REST:
-                numbers.divide(scratch, right, numbers.ignored);
-                result.copyFrom(scratch);
+                result.copyFrom(left);
+                numbers.divide(result, right, numbers.ignored);
                 break;
             case COMMON_DIVISOR:
                 numbers.findCommonDivisor(result, left, right);
@@ -332,7 +328,6 @@ public final class FieldFactors {
         private final Polynomial quotient;
 
         Arithmetic() {
-            p = FIELDS[0];
             inverses = new int[LARGEST_FIELD];
             ignored = new Polynomial(WIDE_WIDTH);
             wide = new Polynomial(WIDE_WIDTH);
@@ -341,6 +336,7 @@ public final class FieldFactors {
             third = new Polynomial(WIDTH);
             fourth = new Polynomial(WIDTH);
             quotient = new Polynomial(WIDTH);
+            become(FIELDS[0]);
         }
 
         void become(int newP) {
@@ -373,7 +369,7 @@ public final class FieldFactors {
         void addProduct(Polynomial sum, int factor, Polynomial a, Polynomial b) {
             for (int i = 0; i <= a.degree; i++) {
                 if (a.coefficients[i] != 0) {
-                    addShifted(sum, factor * a.coefficients[i] % p, i, b);
+                    addShifted(sum, factor * a.coefficients[i], i, b);
                 }
             }
         }
@@ -449,11 +445,9 @@ public final class FieldFactors {
         void raiseToP(Polynomial a, Polynomial modulus) {
             wide.clear();
             for (int i = 0; i <= a.degree; i++) {
-                wide.coefficients[i * p] = a.coefficients[i];
-            }
-            wide.degree = a.degree * p;
-            if (a.degree < 0) {
-                wide.degree = -1;
+                if (a.coefficients[i] != 0) {
+                    wide.put(i * p, a.coefficients[i]);
+                }
             }
             divide(wide, modulus, ignored);
             a.copyFrom(wide);
@@ -462,7 +456,6 @@ public final class FieldFactors {
         void raise(Polynomial target, Polynomial a, int n, Polynomial modulus) {
             Polynomial square = first;
             square.copyFrom(a);
-            divide(square, modulus, ignored);
             target.becomePowerOfX(0);
             for (int left = n; left > 0; left >>= 1) {
                 if ((left & 1) == 1) {
@@ -582,7 +575,6 @@ public final class FieldFactors {
                     int from = size;
                     split(degree);
                     takeOutFactors(from);
-                    numbers.divide(image, rest, numbers.ignored);
                 }
             }
             if (rest.degree > 0) {

@@ -7,6 +7,7 @@ public final class OrderTest {
         ordersOfBinomials();
         noOrder();
         nearTheLimit();
+        roundOrders();
         againstSingleSteps();
         refusals();
         Checks.end();
@@ -67,21 +68,36 @@ public final class OrderTest {
         dueOrder(641, 13, order641);
         dueOrder(49, 13, order49);
         dueOrder(157, 13, order157);
-        dueOrderOfProduct(12 * 641 * 13, order641, order12, order12);
-        dueOrderOfProduct(49 * 157, order49, order157);
-        dueOrderOfProduct(0, order49, order157, order1, order1);
+        dueOrderOfProduct(13, 12 * 641 * 13, order641, order12, order12);
+        dueOrderOfProduct(13, 49 * 157, order49, order157);
+        dueOrderOfProduct(13, 0, order49, order157, order1, order1);
         dueOrder(0, 2, 1, 0, 0, 1, 0, 0, 0, 0, 0, 0, 0, 0, 0, 0, 0, 0, 0, 1);
         dueOrder(0, 2, 1, 1, 1, 0, 0, 0, 0, 1, 0, 0, 0, 0, 0, 0, 0, 0, 0, 0, 0, 0, 0, 0, 1);
     }
 
-    private static void dueOrderOfProduct(int want, int[]... factors) {
-        FieldFactors f = Checks.over(13);
+    /** Orders that are multiples of 500, where a search in larger steps could miss by one. */
+    private static void roundOrders() {
+        int[] order125 = {1, 0, 0, 0, 0, 2, 0, 0, 0, 0, 4, 0, 0, 0, 0, 2, 0, 0, 0, 0, 1};
+        int[] order4 = {1, 0, 1};
+        int[] order8 = {1, 3, 1};
+        int[] order16 = {6, 1, 1};
+        int[] order3 = {5, 1};
+        dueOrder(125, 7, order125);
+        dueOrderOfProduct(7, 500, order125, order4);
+        dueOrderOfProduct(7, 1000, order125, order8);
+        dueOrderOfProduct(7, 2000, order125, order16);
+        dueOrderOfProduct(7, 1500, order125, order4, order3);
+        dueOrderOfProduct(7, 42000, order125, order16, order3, order3);
+    }
+
+    private static void dueOrderOfProduct(int p, int want, int[]... factors) {
+        FieldFactors f = Checks.over(p);
         Checks.fill(f, 0, 1);
         for (int i = 0; i < factors.length; i++) {
             Checks.fill(f, i + 1, factors[i]);
             f.join(0, 2, 0, i + 1);
         }
-        Checks.due("order of a product", f.order(0), want);
+        Checks.due("order of a product over " + p, f.order(0), want);
     }
 
     private static void againstSingleSteps() {

@@ -67,9 +67,12 @@ public final class RegistersTest {
             return f;
         };
         Checks.refuses(start, "piece behind field", NoSuchElementException.class, f -> f.piece(1, 0));
+        Checks.refuses(start, "order behind field", IllegalArgumentException.class, f -> f.order(0));
+        Checks.refuses(start, "factor behind field", IllegalArgumentException.class, f -> f.factor(0));
+        Checks.due("the degree behind field", start.get().join(1, 0, 0, 2), -1);
         FieldFactors f = start.get();
-        f.set(0, 2, 1);
-        Checks.due("the degree behind field", f.join(1, 0, 0, 2), 2);
+        f.set(0, 1, 1);
+        Checks.due("the degree behind field and set", f.join(1, 0, 0, 2), 1);
     }
 
     private static FieldFactors filled() {
