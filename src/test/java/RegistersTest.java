@@ -28,6 +28,11 @@ public final class RegistersTest {
         f.set(3, 2, 3);
         Checks.due("3 in a new object", f.get(3, 2), 1);
         Checks.refuses(FieldFactors::new, "piece of a new object", NoSuchElementException.class, g -> g.piece(0, 0));
+        for (int r = 0; r < Checks.REGISTERS; r++) {
+            int each = r;
+            Checks.refuses(FieldFactors::new, "factor of a new object", IllegalArgumentException.class, g -> g.factor(each));
+            Checks.refuses(FieldFactors::new, "linear of a new object", IllegalArgumentException.class, g -> g.linear(0, each));
+        }
     }
 
     private static void fieldAnswersTheOneBefore() {
