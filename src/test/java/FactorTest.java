@@ -9,6 +9,8 @@ public final class FactorTest {
         knownFactors();
         factorsOfNumbers();
         allSmallOnes();
+        orderOfTheList();
+        longestLists();
         manyOfOneDegree();
         powersOfOne();
         highestDegrees();
@@ -47,6 +49,60 @@ public final class FactorTest {
                 of(0, 1), of(1, 1), of(1, 1, 0, 1), of(1, 0, 1, 1));
         dueFactors(5, of(0, 0, 0, 0, 0, 2), of(5), of(0, 1));
         dueFactors(11, of(1, 0, 1), of(1), of(1, 0, 1));
+    }
+
+    /** By degree, then by the highest power's coefficient that differs, as a number; how often counts nothing. */
+    private static void orderOfTheList() {
+        dueFactors(13, of(1, 12, 1, 12), of(1, 1, 1), of(5, 1), of(8, 1), of(12, 1));
+        dueFactors(13, of(7, 12, 1), of(1, 1), of(2, 1), of(10, 1));
+        dueFactors(2, of(1, 1, 1, 1, 1, 1, 1), of(1, 1), of(1, 1, 0, 1), of(1, 0, 1, 1));
+        dueFactors(3, of(2, 1, 0, 1, 1), of(1, 1), of(1, 0, 1), of(2, 1, 1));
+        dueFactors(3, of(2, 2, 2, 2, 1), of(1, 1), of(2, 1), of(1, 2, 0, 1));
+        dueFactors(2, of(0, 1, 1, 1, 1), of(1, 3), of(0, 1), of(1, 1));
+        dueFactors(2, of(0, 0, 0, 1, 1), of(3, 1), of(0, 1), of(1, 1));
+        dueFactors(2, of(0, 1, 0, 0, 1), of(1, 1, 1), of(0, 1), of(1, 1), of(1, 1, 1));
+    }
+
+    /** The first irreducible ones of each field, as many as the degree that can be cut has room for. */
+    private static void longestLists() {
+        int[] longest = {8, 9, 8, 8, 8, 8};
+        for (int k = 0; k < Checks.FIELDS.length; k++) {
+            int[] a = productOfTheFirst(Checks.FIELDS[k], CUT_DEGREES[k]);
+            compareLists("the longest list", Checks.FIELDS[k], a);
+            FieldFactors f = Checks.over(Checks.FIELDS[k]);
+            Checks.fill(f, 0, a);
+            Checks.due("the longest list over " + Checks.FIELDS[k], f.factor(0), longest[k]);
+            f.piece(1, longest[k] - 1);
+            dueNoPiece(f, longest[k]);
+        }
+    }
+
+    private static void dueNoPiece(FieldFactors f, int i) {
+        String got = "nothing";
+        try {
+            f.piece(2, i);
+        } catch (NoSuchElementException e) {
+            got = "NoSuchElementException";
+        }
+        Checks.due("piece " + i + " behind the last one", got, "NoSuchElementException");
+    }
+
+    private static int[] productOfTheFirst(int p, int highest) {
+        PlainModel model = new PlainModel();
+        model.field(p);
+        model.fill(0, 1);
+        int all = p;
+        for (int degree = 1; degree <= 4; degree++) {
+            for (int number = 0; number < all; number++) {
+                model.fill(1, Checks.digits(number, p, degree));
+                model.set(1, degree, 1);
+                if (model.irreducible(1) && model.join(2, 6, 0, 0) + degree <= highest) {
+                    model.join(0, 2, 0, 1);
+                }
+            }
+            all *= p;
+        }
+        return model.row(0);
     }
 
     private static void factorsOfNumbers() {

@@ -1,3 +1,4 @@
+import java.util.Arrays;
 import java.util.NoSuchElementException;
 import java.util.function.Supplier;
 
@@ -10,6 +11,7 @@ public final class JoinTest {
         commonDivisors();
         monicOnes();
         derivatives();
+        topDegrees();
         targetAmongOperands();
         refusals();
         tooHighDegrees();
@@ -112,6 +114,46 @@ public final class JoinTest {
         dueJoin(3, 7, of(1, 2, 0, 1), of(), 2);
         dueJoin(2, 7, powerOfX(24), of());
         dueJoin(13, 7, powerOfX(24), of(), 0, 0, 0, 0, 0, 0, 0, 0, 0, 0, 0, 0, 0, 0, 0, 0, 0, 0, 0, 0, 0, 0, 0, 11);
+    }
+
+    /** Each operation with operands that fill the row, all over 7. */
+    private static void topDegrees() {
+        int[] all = new int[Checks.TOP_DEGREE + 1];
+        Arrays.fill(all, 6);
+        int[] twice = new int[Checks.TOP_DEGREE + 1];
+        Arrays.fill(twice, 5);
+        dueJoin(7, 0, all, all, twice);
+        dueJoin(7, 1, all, twice, times(all, 6));
+        dueJoin(7, 2, all, of(2), twice);
+        dueJoin(7, 2, of(2), all, twice);
+        dueJoin(7, 3, twice, of(2), all);
+        dueJoin(7, 4, twice, of(2));
+        dueJoin(7, 3, twice, all, 2);
+        dueJoin(7, 4, twice, all);
+        dueJoin(7, 3, powerOfX(24), all, 6);
+        dueJoin(7, 4, powerOfX(23), all, powerOfX(23));
+        dueJoin(7, 5, all, twice, times(all, 6));
+        dueJoin(7, 5, all, of(), times(all, 6));
+        dueJoin(7, 5, minusOne(24), minusOne(18), minusOne(6));
+        dueJoin(7, 5, minusOne(23), minusOne(24), minusOne(1));
+        dueJoin(7, 6, twice, of(), times(all, 6));
+        dueJoin(7, 7, powerOfX(22), of(), powerOfX(21));
+        dueJoin(7, 7, powerOfX(24), of(), times(powerOfX(23), 3));
+    }
+
+    /** x^exponent - 1, over 7. */
+    private static int[] minusOne(int exponent) {
+        int[] row = powerOfX(exponent);
+        row[0] = 6;
+        return row;
+    }
+
+    private static int[] times(int[] a, int number) {
+        int[] row = a.clone();
+        for (int i = 0; i < row.length; i++) {
+            row[i] = row[i] * number % 7;
+        }
+        return row;
     }
 
     private static void targetAmongOperands() {

@@ -1,3 +1,4 @@
+import java.util.Arrays;
 import java.util.NoSuchElementException;
 import java.util.function.Supplier;
 
@@ -7,10 +8,12 @@ public final class ModuloTest {
         smallPowers();
         zerothPowers();
         largePowers();
+        powersOfTopDegree();
         powerTargets();
         powerRefusals();
         inverses();
         inverseOfHigherDegree();
+        inversesOfTopDegree();
         inverseTargets();
         allInversesOfSmallFields();
         inverseRefusals();
@@ -55,6 +58,33 @@ public final class ModuloTest {
         duePower(3, of(), 0, of(1, 0, 1), 1);
         duePower(3, of(1, 0, 1), 0, of(1, 0, 1), 1);
         duePower(3, of(1, 2, 1), 0, of(0, 2), 1);
+        for (int p : Checks.FIELDS) {
+            duePower(p, of(), 0, of(0, 1), 1);
+            duePower(p, of(), 1, of(0, 1));
+            duePower(p, of(), Integer.MAX_VALUE, of(0, 1));
+            duePower(p, of(0, 1), 0, of(0, 1), 1);
+            duePower(p, of(1), 0, of(0, 1), 1);
+        }
+    }
+
+    private static int[] powerOfX(int exponent) {
+        int[] row = new int[exponent + 1];
+        row[exponent] = 1;
+        return row;
+    }
+
+    /** Operands and moduli that fill the row: modulo x - v, x is v. */
+    private static void powersOfTopDegree() {
+        int[] cyclic = powerOfX(24);
+        cyclic[0] = 12;
+        duePower(13, powerOfX(23), Integer.MAX_VALUE, cyclic, powerOfX(17));
+        duePower(13, powerOfX(24), 1, cyclic, 1);
+        duePower(13, powerOfX(24), Integer.MAX_VALUE, cyclic, 1);
+        duePower(13, powerOfX(24), 5, powerOfX(24));
+        duePower(13, powerOfX(1), 23, powerOfX(24), powerOfX(23));
+        duePower(13, powerOfX(1), 24, powerOfX(24));
+        duePower(7, powerOfX(23), 2, of(4, 1), 4);
+        duePower(2, powerOfX(24), 1, of(1, 1), 1);
     }
 
     /** By Fermat: the exponent can be brought below the order, which these answers were found by. */
@@ -144,6 +174,20 @@ public final class ModuloTest {
         Checks.dueRow("a times its inverse", f, 3, 1);
     }
 
+    /** The degree of the answer may be m's less one, and a may fill the row whatever m is. */
+    private static void inversesOfTopDegree() {
+        int[] cyclic = powerOfX(24);
+        cyclic[0] = 12;
+        dueInverse(13, powerOfX(1), cyclic, powerOfX(23));
+        dueInverse(13, powerOfX(23), cyclic, powerOfX(1));
+        dueInverse(13, powerOfX(24), cyclic, 1);
+        dueInverse(13, of(5), powerOfX(24), 8);
+        int[] ones = new int[24];
+        Arrays.fill(ones, 1);
+        dueInverse(2, of(1, 1), powerOfX(24), ones);
+        dueInverse(7, powerOfX(23), of(4, 1), 3);
+    }
+
     private static void inverseTargets() {
         FieldFactors apart = with(7, of(1, 2, 3, 4), of(6, 1, 2));
         int degree = apart.inverse(2, 0, 1);
@@ -194,5 +238,18 @@ public final class ModuloTest {
         Checks.refuses(start, "inverse of 0", IllegalStateException.class, f -> f.inverse(2, 4, 1));
         Checks.refuses(start, "inverse of m", IllegalStateException.class, f -> f.inverse(2, 1, 1));
         Checks.refuses(start, "inverse of what shares x - 1", IllegalStateException.class, f -> f.inverse(2, 6, 5));
+        Checks.refuses(ModuloTest::ofTopDegree, "inverse of x^24 - 1", IllegalStateException.class, f -> f.inverse(2, 0, 1));
+        Checks.refuses(ModuloTest::ofTopDegree, "inverse modulo x^24 - 1", IllegalStateException.class, f -> f.inverse(2, 1, 0));
+        Checks.refuses(ModuloTest::ofTopDegree, "inverse modulo itself", IllegalStateException.class, f -> f.inverse(2, 0, 0));
+    }
+
+    /** 0: x^24 - 1, 1: x + 1, over 11. */
+    private static FieldFactors ofTopDegree() {
+        FieldFactors f = Checks.over(11);
+        f.set(0, 24, 1);
+        f.set(0, 0, -1);
+        Checks.fill(f, 1, 1, 1);
+        f.factor(1);
+        return f;
     }
 }

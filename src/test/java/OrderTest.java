@@ -7,6 +7,7 @@ public final class OrderTest {
         ordersOfBinomials();
         noOrder();
         nearTheLimit();
+        nearestOrdersOfEachField();
         roundOrders();
         againstSingleSteps();
         refusals();
@@ -73,6 +74,22 @@ public final class OrderTest {
         dueOrderOfProduct(13, 0, order49, order157, order1, order1);
         dueOrder(0, 2, 1, 0, 0, 1, 0, 0, 0, 0, 0, 0, 0, 0, 0, 0, 0, 0, 0, 1);
         dueOrder(0, 2, 1, 1, 1, 0, 0, 0, 0, 1, 0, 0, 0, 0, 0, 0, 0, 0, 0, 0, 0, 0, 0, 0, 1);
+    }
+
+    /** The largest order up to 100,000 and the least one above it that the degrees of each field allow. */
+    private static void nearestOrdersOfEachField() {
+        dueOrder(99864, 2, 1, 0, 1, 0, 1, 0, 1, 1, 1, 1, 0, 1, 1, 0, 1, 1, 0, 1, 0, 0, 0, 0, 1, 1);
+        dueOrder(0, 2, 1, 0, 1, 0, 0, 0, 0, 1, 1, 0, 1, 0, 0, 1, 1, 0, 0, 0, 0, 0, 1);
+        dueOrder(99924, 3, 1, 1, 2, 0, 2, 1, 1, 2, 0, 1, 2, 2, 0, 1, 2, 0, 2, 0, 1);
+        dueOrder(0, 3, 2, 0, 1, 1, 1, 0, 1, 0, 1, 0, 0, 1, 2, 1, 1, 1, 0, 2, 1);
+        dueOrder(99550, 5, 4, 4, 2, 1, 4, 1, 3, 2, 1, 1, 4, 2, 3, 1, 0, 2, 4, 3, 1, 3, 0, 1);
+        dueOrder(0, 5, 1, 3, 3, 4, 2, 2, 2, 3, 4, 0, 3, 2, 1, 3, 1, 4, 3, 4, 2, 3, 1, 1);
+        dueOrder(99960, 7, 4, 0, 6, 5, 6, 5, 3, 5, 5, 6, 6, 1, 0, 6, 2, 6, 5, 6, 5, 4, 5, 6, 1, 4, 1);
+        dueOrder(0, 7, 1, 3, 1, 0, 0, 5, 1, 0, 1, 4, 3, 4, 2, 5, 0, 0, 2, 6, 0, 6, 3, 4, 2, 2, 1);
+        dueOrder(99918, 11, 1, 5, 3, 6, 4, 8, 10, 5, 0, 2, 10, 8, 1);
+        dueOrder(0, 11, 7, 8, 10, 3, 1, 10, 8, 2, 10, 5, 5, 2, 10, 0, 5, 3, 3, 1, 5, 1);
+        dueOrder(99996, 13, 9, 5, 4, 0, 7, 5, 8, 1, 11, 12, 4, 12, 9, 6, 6, 5, 5, 0, 4, 7, 4, 0, 1);
+        dueOrder(0, 13, 1, 4, 11, 6, 8, 6, 11, 9, 8, 3, 4, 1, 4, 3, 8, 9, 11, 6, 8, 6, 11, 4, 1);
     }
 
     /** Orders that are multiples of 500, where a search in larger steps could miss by one. */

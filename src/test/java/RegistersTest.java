@@ -7,6 +7,7 @@ public final class RegistersTest {
         newObject();
         fieldAnswersTheOneBefore();
         fieldClearsAll();
+        fieldReckonsAnew();
         fieldRefusals();
         setAndGet();
         setReckonsModuloP();
@@ -78,6 +79,23 @@ public final class RegistersTest {
         FieldFactors f = start.get();
         f.set(0, 1, 1);
         Checks.due("the degree behind field and set", f.join(1, 0, 0, 2), 1);
+    }
+
+    /** From each field to each one: every number is brought to 1 by the new field's reckoning. */
+    private static void fieldReckonsAnew() {
+        for (int from : Checks.FIELDS) {
+            for (int p : Checks.FIELDS) {
+                FieldFactors f = Checks.over(from);
+                Checks.due("field", f.field(p), from);
+                for (int lead = 1; lead < p; lead++) {
+                    f.set(0, 0, lead * 2);
+                    f.set(0, 1, lead);
+                    Checks.due("made monic", f.join(1, 6, 0, 0), 1);
+                    Checks.due("its x", f.get(1, 1), 1);
+                    Checks.due("its number", f.get(1, 0), 2 % p);
+                }
+            }
+        }
     }
 
     private static FieldFactors filled() {

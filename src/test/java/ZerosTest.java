@@ -7,6 +7,7 @@ public final class ZerosTest {
         values();
         valueRefusals();
         zeros();
+        topDegree();
         zerosRefusals();
         linearOnes();
         linearOfFullProducts();
@@ -78,6 +79,21 @@ public final class ZerosTest {
         Checks.due("a double zero counts once", f.zeros(0), 1);
     }
 
+    /** x^24 - 1 has as many zeros as the greatest common divisor of 24 and p - 1 tells. */
+    private static void topDegree() {
+        int[] zeros = {1, 2, 4, 6, 2, 12};
+        for (int k = 0; k < zeros.length; k++) {
+            FieldFactors f = Checks.over(Checks.FIELDS[k]);
+            f.set(0, 24, 1);
+            Checks.due("zeros of x^24", f.zeros(0), 1);
+            f.set(0, 0, -1);
+            Checks.due("zeros of x^24 - 1 over " + Checks.FIELDS[k], f.zeros(0), zeros[k]);
+            Checks.due("x^24 - 1 at 0", f.value(0, 0), Checks.FIELDS[k] - 1);
+            Checks.due("x^24 - 1 at p", f.value(0, Checks.FIELDS[k]), Checks.FIELDS[k] - 1);
+            Checks.due("x^24 - 1 at -1", f.value(0, -1), 0);
+        }
+    }
+
     private static void zerosRefusals() {
         for (int r : Checks.NO_REGISTERS) {
             Checks.refuses(ZerosTest::filled, "zeros of " + r, NoSuchElementException.class, f -> f.zeros(r));
@@ -109,6 +125,10 @@ public final class ZerosTest {
         dueLinear(3, of(0, 0, 2, 0, 2), 0, 0, 1);
         dueLinear(3, of(1, 0, 0, 0, 0, 0, 0, 0, 0, 1), 1, 0, 0, 0, 0, 0, 0, 0, 0, 1);
         dueLinear(7, of(6, 1, 6, 1), 6, 1);
+        int[] withoutZeros = new int[25];
+        withoutZeros[24] = 1;
+        withoutZeros[0] = 11;
+        dueLinear(13, withoutZeros, 1);
     }
 
     /** (x - 1)^24 and (x - 0)^24 fill the row; x^p - x times itself has every zero twice. */
